@@ -2,7 +2,8 @@
  * Builds word machines from expressions over the letters a b c d, with complement and
  * intersection, and answers questions about the words that the expressions mean.
  *
- * <p>All rows are made with the object and used again, so that no later call makes any.
+ * <p>Rows are made once and used again: the object makes its own, and a machine's are made
+ * when a slot gets its first expression, five machines at most.
  */
 public final class WordMachines {
     public static final int NONE = -1;
@@ -33,10 +34,7 @@ public final class WordMachines {
         tape = new int[MOST_BYTES];
         taped = 0;
         slots = new Machine[SLOTS];
-        for (int s = 0; s < SLOTS; s++) {
-            slots[s] = new Machine();
-        }
-        spare = new Machine();
+        spare = null;
         parser = new Parser();
         maker = new Maker();
         least = new Least();
@@ -66,9 +64,10 @@ public final class WordMachines {
         if (!parser.parse(tape, n)) {
             return 0;
         }
-        // Made in the spare one, so that the slot is as before if there are too many states.
-        Machine made = spare;
+        // Made in a spare one, so that the slot is as before if there are too many states.
+        Machine made = spare == null ? new Machine() : spare;
         if (!maker.make(parser.parts, made)) {
+            spare = made;
             return TOO_MANY;
         }
         least.classify(made);
@@ -136,7 +135,7 @@ public final class WordMachines {
         if (m == null || !m.hasState(k)) {
             return NONE;
         }
-        return m.classes > 0 ? m.classRow[k] : NONE;
+        return m.classRow[k];
     }
 
     public int means(int s, int n) {
@@ -187,7 +186,7 @@ public final class WordMachines {
         if (k == NONE) {
             return NONE;
         }
-        m.tellWordTo(k, told);
+        told.trace(m.origin, k);
         return told.length;
     }
 
@@ -222,10 +221,7 @@ public final class WordMachines {
 
     /** The machine of slot s, or null if there is no such slot or it has no expression. */
     private Machine machineIn(int s) {
-        if (s < 0 || s >= SLOTS || slots[s].states == 0) {
-            return null;
-        }
-        return slots[s];
+        return s >= 0 && s < SLOTS ? slots[s] : null;
     }
 
     private static boolean isLetter(int sign) {
@@ -237,6 +233,23 @@ public final class WordMachines {
         // Two machines that differ do so on a word shorter than both have states together.
         private final int[] letters = new int[2 * MOST_STATES];
         private int length = 0;
+
+        /**
+         * Tells the word that led from 0 to last: origin has for each number but 0 the one
+         * before it and the letter between them, as one number.
+         */
+        private void trace(int[] origin, int last) {
+            int count = 0;
+            for (int i = last; i > 0 && count < letters.length; count++) {
+                i = origin[i] / LETTERS;
+            }
+            int i = last;
+            for (int place = count - 1; place >= 0; place--) {
+                letters[place] = origin[i] % LETTERS;
+                i = origin[i] / LETTERS;
+            }
+            length = count;
+        }
     }
 
     /** What is known of an expression's parts, and how they are joined. */
@@ -437,7 +450,7 @@ public final class WordMachines {
                 row(open);
                 firsts |= first;
                 lasts |= last;
-                none |= empty;
+                none = none || empty;
             }
             setPiece(firsts, lasts, none);
         }
@@ -452,7 +465,7 @@ public final class WordMachines {
                 parts.link(lasts, first);
                 firsts |= none ? first : 0;
                 lasts = empty ? lasts | last : last;
-                none &= empty;
+                none = none && empty;
             }
             setPiece(firsts, lasts, none);
         }
@@ -554,7 +567,7 @@ public final class WordMachines {
         }
     }
 
-    /** The machine of one expression; none while it has no states. */
+    /** The machine of one expression. */
     private static final class Machine {
         private int states = 0;
         private int classes = 0;
@@ -582,33 +595,26 @@ public final class WordMachines {
             }
             return NONE;
         }
-
-        /** Tells the first word that leads to state k. */
-        private void tellWordTo(int k, Told told) {
-            int length = 0;
-            for (int state = k; state > 0 && length < MOST_STATES; length++) {
-                state = origin[state] / LETTERS;
-            }
-            int state = k;
-            for (int i = length - 1; i >= 0; i--) {
-                told.letters[i] = origin[state] % LETTERS;
-                state = origin[state] / LETTERS;
-            }
-            told.length = length;
-        }
     }
 
     /** Makes the states of a machine, in their order. */
     private static final class Maker {
+        private static final int BUCKETS = 64;
+        private static final int BUCKET_SHIFT = 26;
+
         private final int[] reach = new int[MOST_PARTS];
         private final int[] behind = new int[MOST_PARTS];
+        /** By bucket: its latest state; 0 ends the chain, since state 0 is never looked for. */
+        private final int[] latest = new int[BUCKETS];
+        /** By state: the one before it in its bucket. */
+        private final int[] earlier = new int[MOST_STATES];
 
         /** Whether there are not too many states. */
         private boolean make(Parts parts, Machine machine) {
             machine.states = 0;
             machine.parts = parts.count;
             machine.spotsInAll = parts.spotsInAll();
-            clearBehind();
+            beginEmpty();
             addState(parts, machine, 0);
             for (int k = 0; k < machine.states && k < MOST_STATES; k++) {
                 setReach(parts, machine, k);
@@ -625,9 +631,12 @@ public final class WordMachines {
             return true;
         }
 
-        private void clearBehind() {
+        private void beginEmpty() {
             for (int p = 0; p < MOST_PARTS; p++) {
                 behind[p] = 0;
+            }
+            for (int bucket = 0; bucket < BUCKETS; bucket++) {
+                latest[bucket] = 0;
             }
         }
 
@@ -647,13 +656,22 @@ public final class WordMachines {
 
         /** The state with the sets behind; the number of states if there is none yet. */
         private int stateBehind(Machine machine) {
-            // State 0 is at its beginning: behind a letter no state is the same, even with no spots.
-            for (int k = 1; k < machine.states; k++) {
+            int k = latest[bucketBehind(machine.parts)];
+            for (int turn = 0; turn < MOST_STATES && k > 0; turn++) {
                 if (hasSetsBehind(machine, k)) {
                     return k;
                 }
+                k = earlier[k];
             }
             return machine.states;
+        }
+
+        private int bucketBehind(int parts) {
+            int mix = 0;
+            for (int p = 0; p < parts; p++) {
+                mix = (mix + behind[p]) * 0x9E3779B1;
+            }
+            return mix >>> BUCKET_SHIFT;
         }
 
         private boolean hasSetsBehind(Machine machine, int k) {
@@ -679,6 +697,12 @@ public final class WordMachines {
             machine.accepting[k] = (parts.truth >>> taking & 1) != 0;
             machine.origin[k] = place;
             machine.states = k + 1;
+            // State 0 is at its beginning: behind a letter no state is the same, even with no spots.
+            if (k > 0) {
+                int bucket = bucketBehind(parts.count);
+                earlier[k] = latest[bucket];
+                latest[bucket] = k;
+            }
             return true;
         }
     }
@@ -781,19 +805,21 @@ public final class WordMachines {
 
         /** In a least machine a class without words ahead never leaves itself. */
         private static boolean meansNothing(Machine m, int k) {
-            boolean stays = !m.accepting[k];
             for (int x = 0; x < LETTERS; x++) {
-                stays &= m.classRow[m.step[k * LETTERS + x]] == m.classRow[k];
+                if (m.classRow[m.step[k * LETTERS + x]] != m.classRow[k]) {
+                    return false;
+                }
             }
-            return stays;
+            return !m.accepting[k];
         }
 
         private boolean goesToEndedOnly(Machine m, int k) {
-            boolean only = true;
             for (int x = 0; x < LETTERS; x++) {
-                only &= ended[m.classRow[m.step[k * LETTERS + x]]];
+                if (!ended[m.classRow[m.step[k * LETTERS + x]]]) {
+                    return false;
+                }
             }
-            return only;
+            return true;
         }
     }
 
@@ -925,7 +951,7 @@ public final class WordMachines {
             tiePair(0, 0, 0);
             for (int i = 0; i < count && i < MOST_PAIRS; i++) {
                 if (m.accepting[lefts[i]] != o.accepting[rights[i]]) {
-                    tellWordTo(i, told);
+                    told.trace(origin, i);
                     return true;
                 }
                 for (int x = 0; x < LETTERS; x++) {
@@ -957,19 +983,6 @@ public final class WordMachines {
                 group = tie[group];
             }
             return group;
-        }
-
-        private void tellWordTo(int pair, Told told) {
-            int length = 0;
-            for (int i = pair; i > 0 && length < MOST_PAIRS; length++) {
-                i = origin[i] / LETTERS;
-            }
-            int i = pair;
-            for (int place = length - 1; place >= 0; place--) {
-                told.letters[place] = origin[i] % LETTERS;
-                i = origin[i] / LETTERS;
-            }
-            told.length = length;
         }
     }
 }
