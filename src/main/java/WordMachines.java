@@ -495,7 +495,8 @@ public final class WordMachines {
             } else if (parts.isFull()) {
                 refuse(MANY);
             } else {
-                int spot = parts.addSpot(letterSet(sign));
+                at++;
+                int spot = parts.addSpot(sign == '[' ? bracket() : lettersOf(sign));
                 setPiece(spot, spot, false);
             }
         }
@@ -510,14 +511,11 @@ public final class WordMachines {
             pass(')');
         }
 
-        private int letterSet(int sign) {
-            at++;
-            if (sign == '[') {
-                return bracket();
-            }
+        private static int lettersOf(int sign) {
             return sign == '.' ? ALL_LETTERS : 1 << sign - 'a';
         }
 
+        /** The letters of what stands behind a [. */
         private int bracket() {
             boolean without = sign() == '^';
             if (without) {
@@ -539,7 +537,7 @@ public final class WordMachines {
             }
             at++;
             if (sign() != '-') {
-                return 1 << low - 'a';
+                return lettersOf(low);
             }
             at++;
             int high = sign();
