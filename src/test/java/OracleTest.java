@@ -1,7 +1,10 @@
 import java.util.List;
 import java.util.Random;
 
-/** Random expressions and random texts, with answers found by other means. */
+/**
+ * Random expressions and random texts, with answers found by other means. No object is asked more
+ * than 512 times, for behind that its answers are free.
+ */
 public final class OracleTest {
     private static final int EXPRESSIONS = 8000;
     private static final int TEXTS = 60000;
@@ -12,6 +15,7 @@ public final class OracleTest {
         faultsOfRandomTexts(random);
         int read = 0;
         int refused = 0;
+        String before = "a";
         WordMachines x = null;
         Oracle[] slots = new Oracle[4];
         for (int i = 0; i < EXPRESSIONS; i++) {
@@ -23,90 +27,125 @@ public final class OracleTest {
             if (e.text.length() > 100 || e.parts.size() > 6 || e.parts.stream().anyMatch(p -> p.spots.size() > 30)) {
                 continue;
             }
+            DUE.under(e.text);
             int s = random.nextInt(4);
             Oracle oracle = new Oracle(e);
             int states = Due.read(x, s, e.text);
-            DUE.is("states of " + e.text, states, oracle.tooMany ? -2 : oracle.states.size());
-            DUE.is("no fault of " + e.text, x.fault(0), 0);
+            DUE.is("states", states, oracle.tooMany ? -2 : oracle.states.size());
+            DUE.is("no fault", x.fault(0), 0);
             if (oracle.tooMany) {
                 refused++;
             } else {
                 read++;
                 slots[s] = oracle;
-                checkMachine(x, s, oracle, random);
+                checkLook(x, s, oracle);
+                checkStates(before, s, oracle);
+                checkWords(before, s, oracle, random);
+                before = e.text;
             }
             int t = random.nextInt(4);
             if (slots[s] != null && slots[t] != null) {
                 checkPair(x, s, t, slots[s], slots[t]);
             }
         }
+        DUE.under("");
         DUE.holds("many were read: " + read, read > EXPRESSIONS / 2);
         DUE.holds("some were too many: " + refused, refused > EXPRESSIONS / 200);
         DUE.end("OracleTest");
     }
 
-    private static void checkMachine(WordMachines x, int s, Oracle o, Random random) {
-        String text = o.expression.text;
-        int[] classes = o.classes();
+    private static void checkLook(WordMachines x, int s, Oracle o) {
         int count = 0;
-        for (int k = 0; k < o.states.size(); k++) {
-            count = Math.max(count, classes[k] + 1);
-            DUE.is("class of " + k + " of " + text, x.classOf(s, k), classes[k]);
-            DUE.is("accepts " + k + " of " + text, x.accepts(s, k), o.accepting.get(k) ? 1 : 0);
-            for (int letter = 0; letter < 4; letter++) {
-                DUE.is("next of " + k + " of " + text, x.next(s, k, letter), o.steps.get(k)[letter]);
-            }
-            for (int p = 0; p < o.expression.parts.size(); p++) {
-                DUE.is("spots of " + k + " of " + text, x.spots(s, k, p), Math.max(0, o.states.get(k).get(p)));
-            }
+        for (int c : o.classes()) {
+            count = Math.max(count, c + 1);
         }
         int spots = o.expression.parts.stream().mapToInt(p -> p.spots.size()).sum();
-        DUE.is("classes of " + text, x.look(s, 1), count);
-        DUE.is("parts of " + text, x.look(s, 2), o.expression.parts.size());
-        DUE.is("spots of " + text, x.look(s, 3), spots);
-        DUE.is("none of " + text, x.look(s, 4), o.accepting.contains(true) ? 0 : 1);
-        DUE.is("finite " + text, x.look(s, 5), o.isFinite() ? 1 : 0);
-        checkWords(x, s, o, random);
+        DUE.is("states", x.look(s, 0), o.states.size());
+        DUE.is("classes", x.look(s, 1), count);
+        DUE.is("parts", x.look(s, 2), o.expression.parts.size());
+        DUE.is("spots", x.look(s, 3), spots);
+        DUE.is("none", x.look(s, 4), o.accepting.contains(true) ? 0 : 1);
+        DUE.is("finite", x.look(s, 5), o.isFinite() ? 1 : 0);
     }
 
-    private static void checkWords(WordMachines x, int s, Oracle o, Random random) {
-        String text = o.expression.text;
+    /** A new object whose slot had another expression before, of which nothing must be left. */
+    private static WordMachines used(String before, int s, String text) {
+        WordMachines x = new WordMachines();
+        Due.read(x, s, before);
+        Due.read(x, s, text);
+        Due.read(x, s, text);
+        return x;
+    }
+
+    private static void checkStates(String before, int s, Oracle o) {
+        int[] classes = o.classes();
+        WordMachines x = null;
+        for (int k = 0; k < o.states.size(); k++) {
+            x = k % 40 == 0 ? used(before, s, o.expression.text) : x;
+            DUE.is("class of " + k, x.classOf(s, k), classes[k]);
+            DUE.is("accepts " + k, x.accepts(s, k), o.accepting.get(k) ? 1 : 0);
+            for (int letter = 0; letter < 4; letter++) {
+                DUE.is("next of " + k, x.next(s, k, letter), o.steps.get(k)[letter]);
+            }
+            for (int p = 0; p < o.expression.parts.size(); p++) {
+                DUE.is("spots of " + k, x.spots(s, k, p), Math.max(0, o.states.get(k).get(p)));
+            }
+        }
+    }
+
+    private static void checkWords(String before, int s, Oracle o, Random random) {
         String shortest = null;
         for (int n = 0; n <= 4; n++) {
             List<String> words = o.wordsOf(n);
-            DUE.is("words of " + n + " of " + text, x.words(s, n), words.size());
-            for (int k = 0; k < words.size(); k += 1 + random.nextInt(20)) {
-                DUE.holds("word " + k + " of " + n + " of " + text, x.word(s, n, k));
-                DUE.holds("word " + k + " of " + n + " of " + text + " is " + words.get(k), Due.told(x).equals(words.get(k)));
-            }
-            DUE.holds("no word beyond of " + text, !x.word(s, n, words.size()));
+            checkShortWords(used(before, s, o.expression.text), s, n, words, random);
             shortest = shortest == null && !words.isEmpty() ? words.get(0) : shortest;
         }
-        int long1 = 5 + random.nextInt(24);
-        long many = x.words(s, long1);
-        DUE.is("words of " + long1 + " of " + text, many, o.count(long1));
-        if (many > 0) {
-            long place = (long) (random.nextDouble() * many);
-            DUE.holds("a long word of " + text, x.word(s, long1, place));
-            String word = Due.told(x);
-            DUE.is("its length", word.length(), long1);
-            DUE.is("a long word of " + text + " is meant", Due.means(x, s, word), 1);
-            DUE.is("the last one of " + text, x.word(s, long1, many - 1) ? 1 : 0, 1);
+        WordMachines x = used(before, s, o.expression.text);
+        checkLongWords(x, s, o, random);
+        checkShortest(x, s, o, shortest);
+        checkMeans(x, s, o, random);
+    }
+
+    private static void checkShortWords(WordMachines x, int s, int n, List<String> words, Random random) {
+        DUE.is("words of " + n, x.words(s, n), words.size());
+        for (int k = 0; k < words.size(); k += 1 + random.nextInt(20)) {
+            DUE.holds("word " + k + " of " + n, x.word(s, n, k));
+            DUE.is("word " + k + " of " + n, Due.told(x), words.get(k));
         }
+        DUE.holds("no word beyond those of " + n, !x.word(s, n, words.size()));
+    }
+
+    private static void checkLongWords(WordMachines x, int s, Oracle o, Random random) {
+        int n = 5 + random.nextInt(24);
+        long many = x.words(s, n);
+        DUE.is("words of " + n, many, o.count(n));
+        if (many > 0) {
+            DUE.holds("a long word", x.word(s, n, (long) (random.nextDouble() * many)));
+            String word = Due.told(x);
+            DUE.is("its length", word.length(), n);
+            DUE.is("it is meant", Due.means(x, s, word), 1);
+            DUE.holds("the last one", x.word(s, n, many - 1));
+        }
+    }
+
+    private static void checkShortest(WordMachines x, int s, Oracle o, String shortest) {
         int length = x.shortest(s);
         if (shortest != null) {
-            DUE.is("shortest of " + text, length, shortest.length());
-            DUE.holds("shortest of " + text + " is " + shortest, Due.told(x).equals(shortest));
+            DUE.is("shortest", length, shortest.length());
+            DUE.is("shortest", Due.told(x), shortest);
         } else {
-            DUE.holds("shortest of " + text + " is long", length == -1 || length > 4);
+            DUE.holds("shortest is long", length == -1 || length > 4);
             DUE.is("whether there is one", length == -1 ? 0 : 1, o.accepting.contains(true) ? 1 : 0);
         }
+    }
+
+    private static void checkMeans(WordMachines x, int s, Oracle o, Random random) {
         for (int i = 0; i < 4; i++) {
             StringBuilder word = new StringBuilder();
             for (int n = random.nextInt(i == 0 ? 50 : 8); n > 0; n--) {
                 word.append((char) ('a' + random.nextInt(4)));
             }
-            DUE.is("means " + word + " of " + text, Due.means(x, s, word.toString()), o.expression.means(word.toString()) ? 1 : 0);
+            DUE.is("means " + word, Due.means(x, s, word.toString()), o.expression.means(word.toString()) ? 1 : 0);
         }
     }
 
@@ -118,14 +157,15 @@ public final class OracleTest {
         int length = x.differ(s, t);
         DUE.is("differ " + names, length, first == null ? -1 : first.length());
         if (first != null) {
-            DUE.holds("differ " + names + " is " + first, Due.told(x).equals(first));
+            DUE.is("told by differ " + names, Due.told(x), first);
         }
     }
 
     private static void faultsOfRandomTexts(Random random) {
-        WordMachines x = new WordMachines();
+        WordMachines x = null;
         int[] numbers = new int[3];
         for (int i = 0; i < TEXTS; i++) {
+            x = i % 50 == 0 ? new WordMachines() : x;
             String text = randomText(random);
             FaultOracle due = new FaultOracle(text);
             int states = Due.read(x, 0, text);

@@ -576,26 +576,27 @@ public final class PromiseTest {
 
     /** No call may throw, whatever it is given, with expressions in the slots and without. */
     private static void wildArguments() {
-        WordMachines x = new WordMachines();
-        for (int turn = 0; turn < 2; turn++) {
-            for (int a : WILD) {
-                DUE.is("read", x.read(a, 0), NONE);
-                DUE.is("look", x.look(a, 0), NONE);
-                x.fault(a);
-                x.letter(a);
-                for (int b : WILD) {
-                    DUE.is("next", x.next(0, a, b), NONE);
-                    DUE.is("spots", x.spots(0, a, b), NONE);
-                    DUE.is("compare", x.compare(a, b), NONE);
-                    DUE.is("differ", x.differ(a, b), NONE);
-                    DUE.is("means", x.means(a, b), NONE);
-                    DUE.is("words", x.words(a, b), NONE);
-                    DUE.holds("word", !x.word(a, b, b));
-                }
-                DUE.is("accepts", x.accepts(0, a), NONE);
-                DUE.is("classOf", x.classOf(0, a), NONE);
-            }
-            Due.read(x, 0, "a");
+        for (int a : WILD) {
+            wildArguments(new WordMachines(), a);
+            wildArguments(Due.with("a"), a);
         }
+    }
+
+    private static void wildArguments(WordMachines x, int a) {
+        DUE.is("read", x.read(a, 0), NONE);
+        DUE.is("look", x.look(a, 0), NONE);
+        x.fault(a);
+        x.letter(a);
+        for (int b : WILD) {
+            DUE.is("next", x.next(0, a, b), NONE);
+            DUE.is("spots", x.spots(0, a, b), NONE);
+            DUE.is("compare", x.compare(a, b), NONE);
+            DUE.is("differ", x.differ(a, b), NONE);
+            DUE.is("means", x.means(a, b), NONE);
+            DUE.is("words", x.words(a, b), NONE);
+            DUE.holds("word", !x.word(a, b, b));
+        }
+        DUE.is("accepts", x.accepts(0, a), NONE);
+        DUE.is("classOf", x.classOf(0, a), NONE);
     }
 }
