@@ -1,12 +1,14 @@
 /** Promises 1 to 9: the tape, the slots, and the states in them. */
 final class SlotSentences {
     private static final int NONE = WordMachines.NONE;
-    private static final int MIN = Integer.MIN_VALUE;
-    private static final int MAX = Integer.MAX_VALUE;
     private static final int ABCD = 0x61626364;
-    private static final int[] NO_SLOTS = {MIN, -1, 4, 5, MAX};
-    private static final String TOO_MANY = ".*a.......";
-    private static final String STATES_150 = "(" + "a".repeat(29) + ")*,(aaaaa)*,bbb";
+    private static final String TOO_MANY = Edges.TOO_MANY;
+    private static final String STATES_150 = Edges.STATES_150;
+
+    /** A call that asks for something of a state. */
+    private interface OfState {
+        long ask(WordMachines x, int s, int k);
+    }
 
     static void say(Sentences all) {
         newObject(all);
@@ -14,7 +16,10 @@ final class SlotSentences {
         read(all);
         fault(all);
         look(all);
-        states(all);
+        next(all);
+        accepts(all);
+        spots(all);
+        classes(all);
     }
 
     private static int feedWord(WordMachines x) {
@@ -48,7 +53,7 @@ final class SlotSentences {
             for (int s = 0; s < 4; s++) {
                 due.is("slot " + s + " is one of its own", y.look(s, 3), s + 1);
             }
-            for (int s : NO_SLOTS) {
+            for (int s : Edges.NO_SLOTS) {
                 due.is("there is no slot " + s, y.read(s, 0), NONE);
                 due.is("nor its look", y.look(s, 0), NONE);
             }
@@ -87,7 +92,7 @@ final class SlotSentences {
                 due.is("feed " + i, feedWord(x), 20L * i);
             }
             due.is("feed 6", x.feed(0, 0, 0, 0, 0), NONE);
-            due.is("feed 7", x.feed(MAX, MIN, -1, 1, 0), NONE);
+            due.is("feed 7", x.feed(Edges.MAX, Edges.MIN, -1, 1, 0), NONE);
             due.is("101 bytes", x.read(1, 101), NONE);
             due.is("the hundred bytes are there", x.means(0, 100), 1);
             due.is("and then there is room", feedWord(x), 20);
@@ -128,6 +133,8 @@ final class SlotSentences {
             due.is("another slot keeps its own", x.words(2, 1), 1);
             due.is("in place again", Due.read(x, 3, STATES_150), 150);
             due.is("the last state", x.accepts(3, 149), 1);
+            nothingIsLeft(due);
+            eachSlotItsOwn(due);
         });
         all.say(title, "0: a FAULT (fault());", due -> {
             WordMachines x = new WordMachines();
@@ -138,16 +145,16 @@ final class SlotSentences {
         });
         all.say(title, "-2: TOO MANY;", due -> {
             due.states(STATES_150, 150);
-            due.states(STATES_150 + "b", -2);
+            due.states(Edges.STATES_151, -2);
             due.states(TOO_MANY, -2);
         });
         all.say(title, "NONE: no such s, or it has not so many (the tape stays).", due -> {
             WordMachines x = new WordMachines();
             feedWord(x);
-            for (int s : NO_SLOTS) {
+            for (int s : Edges.NO_SLOTS) {
                 due.is("read(" + s + ", 20)", x.read(s, 20), NONE);
             }
-            for (int n : new int[] {21, 100, 101, MAX, -1, MIN}) {
+            for (int n : Edges.NO_COUNTS) {
                 due.is("read(0, " + n + ")", x.read(0, n), NONE);
             }
             due.is("the slot stays empty", x.look(0, 0), NONE);
@@ -168,6 +175,36 @@ final class SlotSentences {
                 due.is("class", x.classOf(1, 4), 3);
             }
         });
+    }
+
+    /** Many words and states before, and again and again few or none in place of them. */
+    private static void nothingIsLeft(Due due) {
+        WordMachines x = new WordMachines();
+        for (int turn = 0; turn < 4; turn++) {
+            due.is("all words", Due.read(x, 1, "!0,aaaa"), 6);
+            due.is("so many", x.words(1, 4), 256);
+            due.is("none", Due.read(x, 1, turn % 2 == 0 ? "a0" : "0"), turn % 2 == 0 ? 3 : 2);
+            due.is("so many", x.words(1, 4), 0);
+            due.is("classes", x.look(1, 1), 1);
+            due.is("no word", x.look(1, 4), 1);
+            due.is("no shortest", x.shortest(1), NONE);
+        }
+        due.is("none in 150 states", Due.read(x, 1, "{" + STATES_150 + "}&0"), 150);
+        due.is("no word", x.look(1, 4), 1);
+        due.is("no shortest", x.shortest(1), NONE);
+    }
+
+    private static void eachSlotItsOwn(Due due) {
+        WordMachines x = new WordMachines();
+        for (int turn = 0; turn < 3; turn++) {
+            for (int s = 0; s < 4; s++) {
+                due.is("too many", Due.read(x, s, TOO_MANY), -2);
+                due.is("then not", Due.read(x, s, "b".repeat(4 * turn + s + 1)), 4 * turn + s + 3);
+            }
+            for (int s = 0; s < 4; s++) {
+                due.is("shortest(" + s + ")", x.shortest(s), 4 * turn + s + 1);
+            }
+        }
     }
 
     private static void fault(Sentences all) {
@@ -205,7 +242,7 @@ final class SlotSentences {
         all.say(title, "NONE for others.", due -> {
             WordMachines x = new WordMachines();
             for (int turn = 0; turn < 2; turn++) {
-                for (int what : new int[] {MIN, -2, -1, 2, 3, 256, MAX}) {
+                for (int what : new int[] {Edges.MIN, -2, -1, 2, 3, 256, Edges.MAX}) {
                     due.is("fault(" + what + ")", x.fault(what), NONE);
                 }
                 Due.read(x, 0, "a)");
@@ -220,6 +257,12 @@ final class SlotSentences {
         }
     }
 
+    private static void isMeant(Due due, WordMachines x, int s, String text, int none, int finite) {
+        Due.read(x, s, text);
+        due.is("look(" + s + ", 4) of " + text, x.look(s, 4), none);
+        due.is("look(" + s + ", 5) of " + text, x.look(s, 5), finite);
+    }
+
     private static void look(Sentences all) {
         String title = "Promise 5: look";
         all.say(title, "Of SLOT s, what 0 STATES, 1 CLASSES, 2 PARTS, 3 SPOTS in all,", due -> {
@@ -232,38 +275,51 @@ final class SlotSentences {
             isLook(due, thirty + thirty + thirty + "aaaaaaa", 32, 32, 4, 97);
         });
         all.say(title, "4 whether it means no WORD, 5 whether it means finitely many (1, 0).", due -> {
-            for (String none : new String[] {"0", "a0", "a&b", "0+", "[^a-d]", "!.*", "a*0", "aa*&bb*"}) {
-                due.is("look(0, 4) of " + none, Due.with(none).look(0, 4), 1);
-                due.is("look(0, 5) of " + none, Due.with(none).look(0, 5), 1);
-            }
-            for (String few : new String[] {"1", "0*", "a", "a*&b*", "!..+&!a", "a*0|b", "a?b?c?d?", "(ab)*&(aba)*"}) {
-                due.is("look(0, 4) of " + few, Due.with(few).look(0, 4), 0);
-                due.is("look(0, 5) of " + few, Due.with(few).look(0, 5), 1);
-            }
-            for (String many : new String[] {"a*", "!0", "!a", "a*b", "ab+0?", "(aa)*&(aaa)*", STATES_150}) {
-                due.is("look(0, 4) of " + many, Due.with(many).look(0, 4), 0);
-                due.is("look(0, 5) of " + many, Due.with(many).look(0, 5), 0);
+            String[] none = {"0", "a0", "a&b", "0+", "[^a-d]", "!.*", "a*0", "aa*&bb*", "{" + STATES_150 + "}&0"};
+            String[] few = {"1", "0*", "b", "ad", "a*&b*", "!..+&!a", "a*0|b", "d?c?b?a", "(ab)*&(aba)*"};
+            String[] many = {"a*", "!0", "!a", "[^a]*a", "[^d]*d", "ab+0?", "(aa)*&(aaa)*", "b*a", STATES_150};
+            WordMachines x = new WordMachines();
+            for (int i = 0; i < 9; i++) {
+                isMeant(due, x, i % 4, none[i], 1, 1);
+                isMeant(due, x, i % 4, many[i], 0, 0);
+                isMeant(due, x, i % 4, few[i], 0, 1);
+                isMeant(due, x, i % 4, many[i], 0, 0);
             }
         });
         all.say(title, "NONE for others, or without an EXPRESSION.", due -> {
             WordMachines x = Due.with("a");
-            for (int what : new int[] {MIN, -1, 6, 7, 256, MAX}) {
+            for (int what : new int[] {Edges.MIN, -1, 6, 7, 256, Edges.MAX}) {
                 due.is("look(0, " + what + ")", x.look(0, what), NONE);
                 due.is("look(1, " + what + ")", x.look(1, what), NONE);
             }
             for (int what = 0; what < 6; what++) {
                 due.is("look(1, " + what + ")", x.look(1, what), NONE);
-                for (int s : NO_SLOTS) {
+                for (int s : Edges.NO_SLOTS) {
                     due.is("look(" + s + ", " + what + ")", x.look(s, what), NONE);
                 }
             }
         });
     }
 
-    private static void states(Sentences all) {
-        // 1 << 30 times 4 and 1 << 31 times 2 wrap around to 0, and 715827883 times 6 to 2.
-        int[] noStates = {MIN, -1, 150, 151, 715827883, 1 << 30, MAX};
-        all.say("Promise 6: next", "The STATE BEHIND STATE k and LETTER x (0 to 3);", due -> {
+    /** No state beyond the last one of 3 and of 150, none below 0, and none without an expression. */
+    private static void noneSuch(Due due, String call, OfState state) {
+        WordMachines x = Due.with("a", STATES_150);
+        for (int k : Edges.NO_STATES) {
+            due.is(call + " of slot 0, state " + k, state.ask(x, 0, k), NONE);
+            due.is(call + " of slot 1, state " + k, state.ask(x, 1, k), NONE);
+        }
+        due.is(call + " of slot 0, state 3", state.ask(x, 0, 3), NONE);
+        due.is(call + " of slot 2", state.ask(x, 2, 0), NONE);
+        for (int s : Edges.NO_SLOTS) {
+            due.is(call + " of slot " + s, state.ask(x, s, 0), NONE);
+        }
+        due.holds(call + " of the last of 3", state.ask(x, 0, 2) != NONE);
+        due.holds(call + " of the last of 150", state.ask(x, 1, 149) != NONE);
+    }
+
+    private static void next(Sentences all) {
+        String title = "Promise 6: next";
+        all.say(title, "The STATE BEHIND STATE k and LETTER x (0 to 3);", due -> {
             WordMachines x = Due.with("a.*|d", STATES_150);
             int[][] rows = {{1, 2, 2, 3}, {4, 4, 4, 4}, {2, 2, 2, 2}, {2, 2, 2, 2}, {4, 4, 4, 4}};
             for (int k = 0; k < 5; k++) {
@@ -274,28 +330,19 @@ final class SlotSentences {
             due.is("round the cycle", x.next(1, 149, 0), 1);
             due.is("out of it", x.next(1, 149, 3), 3);
         });
-        all.say("Promise 6: next", "NONE: none such.", due -> {
+        all.say(title, "NONE: none such.", due -> {
+            noneSuch(due, "next by a", (x, s, k) -> x.next(s, k, 0));
+            noneSuch(due, "next by d", (x, s, k) -> x.next(s, k, 3));
             WordMachines x = Due.with("a", STATES_150);
-            for (int k : noStates) {
-                due.is("next(0, " + k + ", 0)", x.next(0, k, 0), NONE);
-                due.is("next(1, " + k + ", 3)", x.next(1, k, 3), NONE);
-            }
-            for (int letter : new int[] {MIN, -1, 4, 5, MAX}) {
-                due.is("next(0, 1, " + letter + ")", x.next(0, 1, letter), NONE);
+            for (int letter : Edges.NO_LETTERS) {
                 due.is("next(0, 0, " + letter + ")", x.next(0, 0, letter), NONE);
-            }
-            due.is("next(0, 3, 0)", x.next(0, 3, 0), NONE);
-            due.is("next(2, 0, 0)", x.next(2, 0, 0), NONE);
-            for (int s : NO_SLOTS) {
-                due.is("next(" + s + ", 0, 0)", x.next(s, 0, 0), NONE);
+                due.is("next(0, 1, " + letter + ")", x.next(0, 1, letter), NONE);
+                due.is("next(1, 149, " + letter + ")", x.next(1, 149, letter), NONE);
             }
         });
-        accepts(all, noStates);
-        spots(all, noStates);
-        classes(all, noStates);
     }
 
-    private static void accepts(Sentences all, int[] noStates) {
+    private static void accepts(Sentences all) {
         String title = "Promise 7: accepts";
         all.say(title, "Whether STATE k ACCEPTS: 1, 0;", due -> {
             WordMachines x = Due.with("a", "!a", STATES_150);
@@ -306,21 +353,10 @@ final class SlotSentences {
             due.is("accepts(2, 148)", x.accepts(2, 148), 0);
             due.is("accepts(2, 149)", x.accepts(2, 149), 1);
         });
-        all.say(title, "NONE: none such.", due -> {
-            WordMachines x = Due.with("a", STATES_150);
-            for (int k : noStates) {
-                due.is("accepts(0, " + k + ")", x.accepts(0, k), NONE);
-                due.is("accepts(1, " + k + ")", x.accepts(1, k), NONE);
-            }
-            due.is("accepts(0, 3)", x.accepts(0, 3), NONE);
-            due.is("accepts(2, 0)", x.accepts(2, 0), NONE);
-            for (int s : NO_SLOTS) {
-                due.is("accepts(" + s + ", 0)", x.accepts(s, 0), NONE);
-            }
-        });
+        all.say(title, "NONE: none such.", due -> noneSuch(due, "accepts", WordMachines::accepts));
     }
 
-    private static void spots(Sentences all, int[] noStates) {
+    private static void spots(Sentences all) {
         String title = "Promise 8: spots";
         all.say(title, "SPOTS that PART p has in STATE k, as bits (the lowest the first);", due -> {
             WordMachines x = Due.with("a.[b-c]&!.*,0", "a?".repeat(30), "a".repeat(30), "0,0,0,0,0,a");
@@ -335,27 +371,21 @@ final class SlotSentences {
             due.is("part 5", x.spots(3, 1, 5), 1);
         });
         all.say(title, "NONE: none such.", due -> {
+            noneSuch(due, "spots of part 0", (x, s, k) -> x.spots(s, k, 0));
             WordMachines x = Due.with("a", "a,b,c,d,a,b", STATES_150);
-            for (int k : noStates) {
-                due.is("spots(0, " + k + ", 0)", x.spots(0, k, 0), NONE);
-                due.is("spots(2, " + k + ", 2)", x.spots(2, k, 2), NONE);
-            }
-            for (int p : new int[] {MIN, -1, 6, 7, MAX}) {
+            for (int p : Edges.NO_PARTS) {
                 due.is("spots(0, 1, " + p + ")", x.spots(0, 1, p), NONE);
                 due.is("spots(1, 1, " + p + ")", x.spots(1, 1, p), NONE);
+                due.is("spots(2, 149, " + p + ")", x.spots(2, 149, p), NONE);
             }
             due.is("spots(0, 0, 1)", x.spots(0, 0, 1), NONE);
             due.is("spots(0, 0, 5)", x.spots(0, 0, 5), NONE);
-            due.is("spots(0, 3, 0)", x.spots(0, 3, 0), NONE);
             due.is("spots(2, 0, 3)", x.spots(2, 0, 3), NONE);
-            due.is("spots(3, 0, 0)", x.spots(3, 0, 0), NONE);
-            for (int s : NO_SLOTS) {
-                due.is("spots(" + s + ", 0, 0)", x.spots(s, 0, 0), NONE);
-            }
+            due.is("spots(1, 0, 5)", x.spots(1, 0, 5), 0);
         });
     }
 
-    private static void classes(Sentences all, int[] noStates) {
+    private static void classes(Sentences all) {
         String title = "Promise 9: classOf";
         all.say(title, "The CLASS of STATE k;", due -> {
             WordMachines x = Due.with("(a|b)*abb", STATES_150, "!0");
@@ -367,17 +397,6 @@ final class SlotSentences {
             due.is("classOf(1, 149)", x.classOf(1, 149), 149);
             due.is("classOf(2, 1)", x.classOf(2, 1), 0);
         });
-        all.say(title, "NONE: none such.", due -> {
-            WordMachines x = Due.with("a", STATES_150);
-            for (int k : noStates) {
-                due.is("classOf(0, " + k + ")", x.classOf(0, k), NONE);
-                due.is("classOf(1, " + k + ")", x.classOf(1, k), NONE);
-            }
-            due.is("classOf(0, 3)", x.classOf(0, 3), NONE);
-            due.is("classOf(2, 0)", x.classOf(2, 0), NONE);
-            for (int s : NO_SLOTS) {
-                due.is("classOf(" + s + ", 0)", x.classOf(s, 0), NONE);
-            }
-        });
+        all.say(title, "NONE: none such.", due -> noneSuch(due, "classOf", WordMachines::classOf));
     }
 }

@@ -4,7 +4,6 @@ import java.util.function.ToLongFunction;
 final class StateSentences {
     private static final String TERMS = "Terms";
     private static final int NONE = WordMachines.NONE;
-    private static final String CYCLES = "(" + "a".repeat(29) + ")*,(aaaaa)*,";
     private static final int TAPED = 20;
 
     static void say(Sentences all) {
@@ -108,11 +107,11 @@ final class StateSentences {
             isSteps(due, "1", new int[][] {{1, 1, 1, 1}, {1, 1, 1, 1}});
         });
         all.say(TERMS, "more than 150: TOO MANY.", due -> {
-            due.states(CYCLES + "bbb", 150);
-            due.states(CYCLES + "bbbb", -2);
+            due.states(Edges.STATES_150, 150);
+            due.states(Edges.STATES_151, -2);
             due.states(".*a.....", 65);
             due.states(".*a......", 129);
-            due.states(".*a.......", -2);
+            due.states(Edges.TOO_MANY, -2);
             due.states(".*a" + ".".repeat(28), -2);
         });
         String accepts = "A STATE ACCEPTS if its PARTS TAKE such WORDS that the EXPRESSION does, by , & !.";
@@ -273,7 +272,7 @@ final class StateSentences {
         for (int s = 0; s < 4; s++) {
             WordMachines x = filled(false);
             x.means(3, TAPED);
-            due.is("too many", Due.read(x, s, ".*a......."), -2);
+            due.is("too many", Due.read(x, s, Edges.TOO_MANY), -2);
             due.is("what all answer behind -2", answersOf(x), answersOf(filled(false)));
             due.is("the tape behind -2", tapeOf(x, 0), "tape 0 all abcd: 1");
         }

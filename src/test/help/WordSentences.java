@@ -3,10 +3,7 @@ import java.util.Arrays;
 /** Promises 10 to 16: the words that slots mean. */
 final class WordSentences {
     private static final int NONE = WordMachines.NONE;
-    private static final int MIN = Integer.MIN_VALUE;
-    private static final int MAX = Integer.MAX_VALUE;
-    private static final int[] NO_SLOTS = {MIN, -1, 4, 5, MAX};
-    private static final int[] NO_LENGTHS = {MIN, -1, 29, 30, 150, MAX};
+    private static final String STATES_150 = Edges.STATES_150;
     private static final String EACH_145TH = "(" + "a".repeat(29) + ")+&(aaaaa)+";
     /** The letter a n times, for n = 142, 142 + 143, .. and for n = 142, 142 + 144, .. */
     private static final String FROM_142_BY_143 = "(" + "a".repeat(11) + ")*" + "a".repeat(10)
@@ -59,10 +56,10 @@ final class WordSentences {
             WordMachines x = Due.with("abcd");
             Due.feed(x, "abcd");
             due.is("means(1, 4)", x.means(1, 4), NONE);
-            for (int s : NO_SLOTS) {
+            for (int s : Edges.NO_SLOTS) {
                 due.is("means(" + s + ", 4)", x.means(s, 4), NONE);
             }
-            for (int n : new int[] {21, 100, 101, MAX, -1, MIN}) {
+            for (int n : Edges.NO_COUNTS) {
                 due.is("means(0, " + n + ")", x.means(0, n), NONE);
             }
             due.is("the tape stays", x.means(0, 4), 1);
@@ -79,14 +76,18 @@ final class WordSentences {
                 due.is("words(2, " + n + ")", x.words(2, n), 0);
                 due.is("words(3, " + n + ")", x.words(3, n), n == 0 ? 0 : 3L << 2 * n - 2);
             }
+            WordMachines y = Due.with("!{" + STATES_150 + "}", STATES_150);
+            due.is("by 150 states", y.words(0, 28), 1L << 56);
+            due.is("by 150 states", y.words(0, 25), (1L << 50) - 1);
+            due.is("by 150 states", y.words(1, 3), 1);
         });
         all.say(title, "NONE: no EXPRESSION, no such n.", due -> {
             WordMachines x = Due.with("!0");
-            for (int n : NO_LENGTHS) {
+            for (int n : Edges.NO_LENGTHS) {
                 due.is("words(0, " + n + ")", x.words(0, n), NONE);
             }
             due.is("words(1, 0)", x.words(1, 0), NONE);
-            for (int s : NO_SLOTS) {
+            for (int s : Edges.NO_SLOTS) {
                 due.is("words(" + s + ", 0)", x.words(s, 0), NONE);
             }
         });
@@ -120,6 +121,9 @@ final class WordSentences {
             isWord(due, x, 1, 28, 1L << 32, "a".repeat(11) + "b" + "a".repeat(16));
             isWord(due, x, 2, 0, 0, "");
             isWord(due, x, 2, 28, (1L << 27) - 1, "b".repeat(28));
+            Due.read(x, 3, STATES_150);
+            isWord(due, x, 3, 25, 0, "a".repeat(25));
+            isWord(due, x, 3, 3, 0, "bbb");
         });
         all.say(title, "false: there is none such.", due -> {
             WordMachines x = Due.with("ab|ba", "!0", "0");
@@ -127,7 +131,7 @@ final class WordSentences {
             for (long k : new long[] {2, 3, 1L << 32, Long.MAX_VALUE, -1, -(1L << 32), Long.MIN_VALUE}) {
                 due.holds("no word(0, 2, " + k + ")", !x.word(0, 2, k));
             }
-            for (int n : NO_LENGTHS) {
+            for (int n : Edges.NO_LENGTHS) {
                 due.holds("no word(1, " + n + ", 0)", !x.word(1, n, 0));
             }
             for (int n = 0; n <= 28; n++) {
@@ -137,7 +141,7 @@ final class WordSentences {
             due.holds("no word(0, 0, 0)", !x.word(0, 0, 0));
             due.holds("no word(0, 1, 0)", !x.word(0, 1, 0));
             due.holds("no word(3, 0, 0)", !x.word(3, 0, 0));
-            for (int s : NO_SLOTS) {
+            for (int s : Edges.NO_SLOTS) {
                 due.holds("no word(" + s + ", 0, 0)", !x.word(s, 0, 0));
             }
             due.is("the word told stays", Due.told(x), "ba");
@@ -171,7 +175,7 @@ final class WordSentences {
             due.is("shortest(0)", x.shortest(0), NONE);
             due.is("shortest(1)", x.shortest(1), NONE);
             due.is("shortest(3)", x.shortest(3), NONE);
-            for (int s : NO_SLOTS) {
+            for (int s : Edges.NO_SLOTS) {
                 due.is("shortest(" + s + ")", x.shortest(s), NONE);
             }
             due.is("the word told stays", Due.told(x), "cd");
@@ -184,6 +188,16 @@ final class WordSentences {
         due.is("compare " + other + " with " + one, x.compare(3, 0), answer == 1 ? 2 : answer == 2 ? 1 : answer);
     }
 
+    /** The only word that one means, not the other, leads to the last state of both. */
+    private static void lastStatesDiffer(Due due) {
+        for (int m = 1; m <= 20; m++) {
+            for (int n = 0; n <= m && m + n <= 30; n++) {
+                String word = "d".repeat(m);
+                isCompared(due, word, "c".repeat(n) + "0|" + word + "0", 1);
+            }
+        }
+    }
+
     private static void compare(Sentences all) {
         String title = "Promise 14: compare";
         all.say(title, "Whether SLOTS s and t mean the same: 0;", due -> {
@@ -192,6 +206,7 @@ final class WordSentences {
             isCompared(due, "!0", ".*", 0);
             isCompared(due, "(a|b)*", "(a*b*)*", 0);
             isCompared(due, "(aa)*&(aaa)*", "(aaaaaa)*", 0);
+            isCompared(due, STATES_150, "bbb,(aaaaa)*,(" + "a".repeat(29) + ")*", 0);
             due.is("compare(2, 2)", Due.with("a", "b", "c").compare(2, 2), 0);
         });
         all.say(title, "1 s means all that t means, and more; 2 t all of s, and more; 3 neither;", due -> {
@@ -205,13 +220,17 @@ final class WordSentences {
             isCompared(due, "1", "!1", 3);
             isCompared(due, "(aaaaa)*", "(aaaaaaa)*", 3);
             isCompared(due, FROM_142_BY_143, FROM_142_BY_144, 3);
+            isCompared(due, STATES_150, STATES_150.replace("aaaaa)*,b", "aaaaa)*&!b"), 1);
+            isCompared(due, "(aaaaa)*a", "a|aaaa", 3);
+            isCompared(due, "(aaaaa)*a|aa", "a", 1);
+            lastStatesDiffer(due);
         });
         all.say(title, "NONE: no EXPRESSIONS.", due -> {
             WordMachines x = Due.with("a");
             due.is("compare(0, 1)", x.compare(0, 1), NONE);
             due.is("compare(1, 0)", x.compare(1, 0), NONE);
             due.is("compare(1, 1)", x.compare(1, 1), NONE);
-            for (int s : NO_SLOTS) {
+            for (int s : Edges.NO_SLOTS) {
                 due.is("compare(0, " + s + ")", x.compare(0, s), NONE);
                 due.is("compare(" + s + ", 0)", x.compare(s, 0), NONE);
                 due.is("compare(" + s + ", " + s + ")", x.compare(s, s), NONE);
@@ -228,6 +247,21 @@ final class WordSentences {
         due.is("told by differ of " + other + " and " + one, Due.told(y), word);
     }
 
+    private static void againAndAgain(Due due) {
+        String[] texts = {"a*", "ab*|1", "a|b*", "a*0|cd"};
+        int[][] lengths = {{NONE, 2, 1, 0}, {2, NONE, 1, 0}, {1, 1, NONE, 0}, {0, 0, 0, NONE}};
+        String[][] words = {{"", "aa", "b", ""}, {"aa", "", "b", ""}, {"b", "b", "", ""}, {"", "", "", ""}};
+        WordMachines x = Due.with(texts);
+        for (int turn = 0; turn < 48; turn++) {
+            int s = turn * 7 % 4;
+            int t = turn / 4 % 4;
+            due.is("differ " + texts[s] + " and " + texts[t], x.differ(s, t), lengths[s][t]);
+            if (s != t) {
+                due.is("told by differ " + texts[s] + " and " + texts[t], Due.told(x), words[s][t]);
+            }
+        }
+    }
+
     private static void differ(Sentences all) {
         String title = "Promise 15: differ";
         String told = "The WORD told is the shortest that one of s and t means, not the other,"
@@ -242,6 +276,8 @@ final class WordSentences {
             isDifferent(due, "a|bc", "a|bd", "bc");
             isDifferent(due, EACH_145TH, "0", "a".repeat(145));
             isDifferent(due, FROM_142_BY_143, FROM_142_BY_144, "a".repeat(285));
+            isDifferent(due, STATES_150, STATES_150.replace("bbb", "bba"), "bba");
+            againAndAgain(due);
         });
         all.say(title, "NONE: there is none, no EXPRESSIONS.", due -> {
             WordMachines x = Due.with("cd", "cd&..", "0");
@@ -252,7 +288,7 @@ final class WordSentences {
             due.is("differ(0, 3)", x.differ(0, 3), NONE);
             due.is("differ(3, 0)", x.differ(3, 0), NONE);
             due.is("differ(3, 3)", x.differ(3, 3), NONE);
-            for (int s : NO_SLOTS) {
+            for (int s : Edges.NO_SLOTS) {
                 due.is("differ(0, " + s + ")", x.differ(0, s), NONE);
                 due.is("differ(" + s + ", 0)", x.differ(s, 0), NONE);
             }
@@ -289,7 +325,7 @@ final class WordSentences {
             WordMachines x = Due.with("abcd|1|b", FROM_142_BY_143, FROM_142_BY_144);
             due.is("none told yet", x.letter(0), NONE);
             due.holds("four letters", x.word(0, 4, 0));
-            for (int i : new int[] {MIN, -1, 4, 5, 28, 299, 300, MAX}) {
+            for (int i : new int[] {Edges.MIN, -1, 4, 5, 28, 299, 300, Edges.MAX}) {
                 due.is("letter(" + i + ")", x.letter(i), NONE);
             }
             due.holds("one letter", x.word(0, 1, 0));

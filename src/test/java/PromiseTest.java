@@ -72,7 +72,7 @@ public final class PromiseTest {
         x.feed(0x61626364, 0x61626364, 0x61626364, 0x61626364, 0x61626364);
         DUE.is("highest byte first", x.read(0, 20), 22);
         x.shortest(0);
-        DUE.holds("highest byte first", Due.told(x).equals("abcdabcdabcdabcdabcd"));
+        DUE.is("highest byte first", Due.told(x), "abcdabcdabcdabcdabcd");
         x.feed(0xE1, 0, 0, 0, 0);
         DUE.is("bytes above 127 are no letters", x.read(1, 4), 0);
         DUE.is("the first byte is 0", x.fault(1), 0);
@@ -440,7 +440,7 @@ public final class PromiseTest {
 
     private static void isWord(WordMachines x, int n, long k, String word) {
         DUE.is("word(0, " + n + ", " + k + ")", x.word(0, n, k) ? 1 : 0, 1);
-        DUE.holds("it is " + word + ", not " + Due.told(x), Due.told(x).equals(word));
+        DUE.is("the word told", Due.told(x), word);
     }
 
     private static void word() {
@@ -456,7 +456,7 @@ public final class PromiseTest {
         DUE.holds("-1 letters", !x.word(0, -1, 0));
         DUE.holds("29 letters", !x.word(0, 29, 0));
         DUE.holds("slot 1", !x.word(1, 3, 0));
-        DUE.holds("the word stays", Due.told(x).equals("ddd"));
+        DUE.is("the word stays", Due.told(x), "ddd");
         Due.read(x, 0, "!0");
         isWord(x, 0, 0, "");
         DUE.holds("one empty word", !x.word(0, 0, 1));
@@ -471,7 +471,7 @@ public final class PromiseTest {
         WordMachines x = new WordMachines();
         Due.read(x, 0, text);
         DUE.is("shortest of " + text, x.shortest(0), word.length());
-        DUE.holds("it is " + word + ", not " + Due.told(x), Due.told(x).equals(word));
+        DUE.is("the word told", Due.told(x), word);
     }
 
     private static void shortest() {
@@ -490,7 +490,7 @@ public final class PromiseTest {
         DUE.is("none", x.shortest(0), NONE);
         DUE.is("no expression", x.shortest(1), NONE);
         DUE.is("no slot", x.shortest(-1), NONE);
-        DUE.holds("the word stays", Due.told(x).equals("bc"));
+        DUE.is("the word stays", Due.told(x), "bc");
     }
 
     private static void isCompared(String one, String two, int due) {
@@ -528,9 +528,9 @@ public final class PromiseTest {
         Due.read(x, 1, one);
         Due.read(x, 2, two);
         DUE.is("differ " + one + " and " + two, x.differ(1, 2), word.length());
-        DUE.holds("it is " + word + ", not " + Due.told(x), Due.told(x).equals(word));
+        DUE.is("the word told", Due.told(x), word);
         DUE.is("differ " + two + " and " + one, x.differ(2, 1), word.length());
-        DUE.holds("it is " + word + ", not " + Due.told(x), Due.told(x).equals(word));
+        DUE.is("the word told", Due.told(x), word);
     }
 
     private static void differ() {
@@ -550,7 +550,7 @@ public final class PromiseTest {
         DUE.is("no expression", x.differ(0, 1), NONE);
         DUE.is("no slot", x.differ(4, 1), NONE);
         DUE.is("no slot", x.differ(1, -1), NONE);
-        DUE.holds("the word stays", Due.told(x).equals("cd"));
+        DUE.is("the word stays", Due.told(x), "cd");
     }
 
     private static void letter() {
