@@ -172,10 +172,30 @@ final class Oracle {
         return result;
     }
 
-    /** How many words of n letters are meant, by paths from state to state. */
-    long count(int n) {
+    /** How many words of the same length are meant that are ahead of this one. */
+    long placeOf(String word) {
+        long place = 0;
+        int state = 0;
+        for (int i = 0; i < word.length(); i++) {
+            int letter = word.charAt(i) - 'a';
+            for (int x = 0; x < letter; x++) {
+                place += count(steps.get(state)[x], word.length() - 1 - i);
+            }
+            state = steps.get(state)[letter];
+        }
+        return place;
+    }
+
+    /** The shortest word that is meant, the first of like ones; null if there is none. */
+    String shortest() {
+        int k = accepting.indexOf(true);
+        return k < 0 ? null : leading.get(k);
+    }
+
+    /** How many words of n letters lead from a state to one that accepts, by all paths at once. */
+    long count(int from, int n) {
         long[] at = new long[states.size()];
-        at[0] = 1;
+        at[from] = 1;
         for (int i = 0; i < n; i++) {
             long[] after = new long[at.length];
             for (int k = 0; k < at.length; k++) {

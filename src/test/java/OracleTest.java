@@ -12,6 +12,7 @@ public final class OracleTest {
 
     public static void main(String[] args) {
         Random random = new Random(20261116);
+        faultsOfShortTexts();
         faultsOfRandomTexts(random);
         int read = 0;
         int refused = 0;
@@ -94,15 +95,15 @@ public final class OracleTest {
     }
 
     private static void checkWords(String before, int s, Oracle o, Random random) {
-        String shortest = null;
+        String first = null;
         for (int n = 0; n <= 4; n++) {
             List<String> words = o.wordsOf(n);
             checkShortWords(used(before, s, o.expression.text), s, n, words, random);
-            shortest = shortest == null && !words.isEmpty() ? words.get(0) : shortest;
+            first = first == null && !words.isEmpty() ? words.get(0) : first;
         }
         WordMachines x = used(before, s, o.expression.text);
         checkLongWords(x, s, o, random);
-        checkShortest(x, s, o, shortest);
+        checkShortest(x, s, o, first);
         checkMeans(x, s, o, random);
     }
 
@@ -118,24 +119,29 @@ public final class OracleTest {
     private static void checkLongWords(WordMachines x, int s, Oracle o, Random random) {
         int n = 5 + random.nextInt(24);
         long many = x.words(s, n);
-        DUE.is("words of " + n, many, o.count(n));
+        DUE.is("words of " + n, many, o.count(0, n));
         if (many > 0) {
-            DUE.holds("a long word", x.word(s, n, (long) (random.nextDouble() * many)));
-            String word = Due.told(x);
-            DUE.is("its length", word.length(), n);
-            DUE.is("it is meant", Due.means(x, s, word), 1);
-            DUE.holds("the last one", x.word(s, n, many - 1));
+            checkLongWord(x, s, n, (long) (random.nextDouble() * many), o);
+            checkLongWord(x, s, n, many - 1, o);
         }
+        DUE.holds("no word beyond those of " + n, !x.word(s, n, many));
     }
 
-    private static void checkShortest(WordMachines x, int s, Oracle o, String shortest) {
-        int length = x.shortest(s);
-        if (shortest != null) {
-            DUE.is("shortest", length, shortest.length());
-            DUE.is("shortest", Due.told(x), shortest);
-        } else {
-            DUE.holds("shortest is long", length == -1 || length > 4);
-            DUE.is("whether there is one", length == -1 ? 0 : 1, o.accepting.contains(true) ? 1 : 0);
+    private static void checkLongWord(WordMachines x, int s, int n, long k, Oracle o) {
+        DUE.holds("word " + k + " of " + n, x.word(s, n, k));
+        String word = Due.told(x);
+        DUE.is("length of word " + k + " of " + n, word.length(), n);
+        DUE.is("place of word " + k + " of " + n, o.placeOf(word), k);
+        DUE.is("means word " + k + " of " + n, Due.means(x, s, word), 1);
+        DUE.holds("word " + k + " of " + n + " is meant", o.expression.means(word));
+    }
+
+    /** The first word of at most four letters was asked of the expression, the others of the states. */
+    private static void checkShortest(WordMachines x, int s, Oracle o, String first) {
+        String due = first == null ? o.shortest() : first;
+        DUE.is("shortest", x.shortest(s), due == null ? -1 : due.length());
+        if (due != null) {
+            DUE.is("told by shortest", Due.told(x), due);
         }
     }
 
@@ -161,22 +167,42 @@ public final class OracleTest {
         }
     }
 
+    /** All texts of at most four signs, but for some that are like others. */
+    private static void faultsOfShortTexts() {
+        String signs = "abc.[]^-()|*01,&!{} e";
+        WordMachines x = null;
+        int codes = (int) Math.pow(signs.length() + 1, 4);
+        for (int code = 0; code < codes; code++) {
+            x = code % 50 == 0 ? new WordMachines() : x;
+            StringBuilder text = new StringBuilder();
+            for (int rest = code; rest > 0; rest /= signs.length() + 1) {
+                int sign = rest % (signs.length() + 1);
+                text.append(sign == 0 ? "" : signs.substring(sign - 1, sign));
+            }
+            checkFault(x, text.toString());
+        }
+    }
+
     private static void faultsOfRandomTexts(Random random) {
         WordMachines x = null;
         int[] numbers = new int[3];
         for (int i = 0; i < TEXTS; i++) {
             x = i % 50 == 0 ? new WordMachines() : x;
-            String text = randomText(random);
-            FaultOracle due = new FaultOracle(text);
-            int states = Due.read(x, 0, text);
-            DUE.is("whether " + text + " has a fault", states == 0 ? 1 : 0, due.number == 0 ? 0 : 1);
-            DUE.is("fault of " + text, x.fault(0), due.number);
-            DUE.is("place of the fault of " + text, x.fault(1), due.place);
-            numbers[due.number]++;
+            numbers[checkFault(x, randomText(random))]++;
         }
         DUE.holds("good texts: " + numbers[0], numbers[0] > TEXTS / 20);
         DUE.holds("syntax faults: " + numbers[1], numbers[1] > TEXTS / 20);
         DUE.holds("many of something: " + numbers[2], numbers[2] > TEXTS / 100);
+    }
+
+    /** The number of the fault that is due. */
+    private static int checkFault(WordMachines x, String text) {
+        FaultOracle due = new FaultOracle(text);
+        int states = Due.read(x, 0, text);
+        DUE.is("whether " + text + " has a fault", states == 0 ? 1 : 0, due.number == 0 ? 0 : 1);
+        DUE.is("fault of " + text, x.fault(0), due.number);
+        DUE.is("place of the fault of " + text, x.fault(1), due.place);
+        return due.number;
     }
 
     /** Signs by chance, or a good expression with some signs changed, put in or left out. */
